@@ -171,6 +171,39 @@ public final class RiversTest {
         CHECK.same("5: but a letter, all as it stood", behindCounts(x), stood.substring(stood.indexOf('\n')));
     }
 
+    private static void layBehindTrials() {
+        // What a trial burnt, paid, hired or believed on the way must not be laid.
+        String text = "t0,50,9,0;t0,5,0,0;t2,7,1,1;c30,40;c20,9;c9,9;w0,2;";
+        PaidToGoAway x = Check.laid(text);
+        String first = Check.state(x);
+        x.pass(2);
+        x.land(2, 2);
+        x.way(2, 3);
+        x.behind(30, 0, 0);
+        x.lay();
+        CHECK.same("5: behind a trial", Check.state(x), first);
+        x.springs(1, 30, 0);
+        x.best(2, 4, 0);
+        x.fault();
+        x.lay();
+        CHECK.same("5: behind trials", Check.state(x), first);
+    }
+
+    private static void textBehindWipe() {
+        // Letters of a text that was wiped are no part of the next one.
+        PaidToGoAway x = Check.written("t0,1,1,1;c12,34;");
+        x.wipe();
+        Check.write(x, "t0,1,1,1");
+        due("4: no ; behind it", x.fault(), 0);
+        x.write(';');
+        due("4: now there is", x.fault(), Check.NONE);
+        Check.write(x, "c12,3");
+        due("4: no figure and ; behind it", x.fault(), 9);
+        x.write(';');
+        due("5: 3, not 34", x.lay(), 1);
+        due("5: 3, not 34", x.crew(0, 1), 3);
+    }
+
     private static String behindCounts(PaidToGoAway x) {
         String state = Check.state(x);
         return state.substring(state.indexOf('\n'));
@@ -252,6 +285,8 @@ public final class RiversTest {
         faultsOfNumbers();
         lay();
         layForgetsAll();
+        layBehindTrials();
+        textBehindWipe();
         townsAndCrews();
         asksAndBelieves();
         CHECK.end();

@@ -24,6 +24,8 @@ public final class SharesTest {
         shareIs(Check.laid("t0,0,0,0;t0,7,0,0;c9,7;"), 0, 0, 1);
         shareIs(Check.laid("t0,0,0,0;t0,7,0,0;c9,7;"), 1, 14, 1);
         shareIs(Check.laid("t0,0,0,0;t3,0,0,0;c9,7;"), 0, Check.NONE, Check.NONE);
+        shareIs(Check.laid("t0,1,0,0;t0,0,0,0;c9,7;"), 0, 14, 1);
+        shareIs(Check.laid("t0,3,0,0;t3,8,0,0;c9,4;c1,1;"), 0, 21, 11);
         PaidToGoAway burnt = Check.laid("t0,9,0,0;t0,8,0,0;t0,4,0,0;c9,10;");
         burnt.pass(1);
         shareIs(burnt, 0, Check.NONE, Check.NONE);
@@ -180,6 +182,17 @@ public final class SharesTest {
         PaidToGoAway y = Check.laid("t0,10,0,9;c1,1;c43,60;w0,1;");
         due("26: not burnt", y.springs(0, 1, 0), 0);
         due("26: silver", y.springs(0, 1, 1), 10);
+        // The first crew draws 1 by z 2 (15839 times 15839 leaves 59533, an eighth is 7441): each crew by many z.
+        for (int crew = 0; crew < 3; crew++) {
+            for (int z = 0; z < 40; z++) {
+                StringBuilder text = new StringBuilder("t0,10,0,9;");
+                for (int i = 0; i < 3; i++) {
+                    text.append(i == crew ? "c43,60;" : "c1,60;");
+                }
+                PaidToGoAway m = Check.laid(text.append("w0,1;").toString());
+                due("26: crew " + crew, m.springs(z, 1, 0), 43 + drawn(z, 0, crew) > 45 ? 1 : 0);
+            }
+        }
         for (int z : new int[] {0, 1, 2, 77, 1234, 5000, 8191, 9998, 9999}) {
             for (int men = 38; men <= 46; men++) {
                 PaidToGoAway m = Check.laid("t0,10,1,9;c1,1;c1,1;c" + men + ",60;w0,1;");

@@ -135,6 +135,14 @@ public final class SpringsTest {
         townIs(x, 0, 39, 20, 0, 0);
     }
 
+    private static void spoilsOfOneSpring() {
+        // 9 in each spring are never 10; 5 and 5 by two towns of one spring are.
+        PaidToGoAway x = after("t0,99,0,0;c10,9;", 9);
+        due("10: of this spring alone", x.crew(0, 0), 10);
+        x = after("t0,5,0,0;t0,5,0,0;c10,15;w0,2;w1,2;", 1);
+        due("10: of all in this spring", x.crew(0, 0), 11);
+    }
+
     private static void crewsInOrder() {
         // The first burns the one town, the second comes to what is left.
         PaidToGoAway x = after("t0,30,0,1;t0,20,0,0;c10,40;c10,7;", 1);
@@ -201,6 +209,9 @@ public final class SpringsTest {
         x.pass(1);
         townIs(x, 0, 0, 0, 1, 0);
         due("12: burnt", x.hire(0, 2, 1), Check.NO);
+        PaidToGoAway one = Check.laid("t0,9,0,0;c8,9;c7,9;");
+        due("12: one man is left", one.hire(0, 0, 1), 1);
+        due("12: and is not gone", one.crew(0, 2), 0);
         PaidToGoAway y = Check.laid("t0,9,0,0;c8,9;c8,9;");
         due("12: as many", y.hire(0, 0, 1), 0);
         due("12: both gone", y.count(4), 2);
@@ -227,6 +238,7 @@ public final class SpringsTest {
         due("13: bad ahead of gone", x.land(4, 0), Check.BAD);
         due("13: 0 at least", x.land(1, 1), 0);
         due("13: income", x.town(1, 2), 0);
+        due("13: hunger beyond its income", Check.laid("t0,9,2,0;c9,60;").land(0, 0), 0);
         x.way(0, 1);
         x.way(1, 1);
         x.pass(1);
@@ -337,6 +349,7 @@ public final class SpringsTest {
         refusing();
         sendingOn();
         building();
+        spoilsOfOneSpring();
         crewsInOrder();
         way();
         hire();
