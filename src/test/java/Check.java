@@ -54,17 +54,35 @@ final class Check {
         for (int what = 0; what <= 9; what++) {
             all.append(x.count(what)).append(what == 9 ? '\n' : ' ');
         }
-        for (int t = 0; t < x.count(0); t++) {
+        int towns = x.count(0);
+        int crews = x.count(1);
+        for (int t = 0; t < towns; t++) {
             for (int what = 0; what <= 6; what++) {
                 all.append(x.town(t, what)).append(what == 6 ? '\n' : ' ');
             }
         }
-        for (int c = 0; c < x.count(1); c++) {
+        for (int c = 0; c < crews; c++) {
             all.append(x.crew(c, 0)).append(' ').append(x.crew(c, 1)).append(' ').append(x.crew(c, 2));
-            for (int t = 0; t < x.count(0); t++) {
+            for (int t = 0; t < towns; t++) {
                 all.append(' ').append(x.believes(c, t));
             }
             all.append('\n');
+        }
+        return all.toString();
+    }
+
+    /** Less of it, for objects that are asked often: springs gone by, all of towns but their kind, men, who is gone. */
+    static String brief(PaidToGoAway x) {
+        StringBuilder all = new StringBuilder().append(x.count(2)).append('\n');
+        int towns = x.count(0);
+        int crews = x.count(1);
+        for (int t = 0; t < towns; t++) {
+            for (int what = 1; what <= 6; what++) {
+                all.append(x.town(t, what)).append(what == 6 ? '\n' : ' ');
+            }
+        }
+        for (int c = 0; c < crews; c++) {
+            all.append(x.crew(c, 0)).append(' ').append(x.crew(c, 2)).append('\n');
         }
         return all.toString();
     }

@@ -9,6 +9,7 @@ public final class ModelTest {
         999, 1000, 9999, 10000, Integer.MIN_VALUE, Integer.MAX_VALUE};
     /** How often each call comes, in the order of NAMES: those that change the river more often. */
     private static final int[] OFTEN = {1, 1, 1, 1, 8, 4, 6, 5, 6, 7, 5, 2, 6, 6, 6, 4, 4, 3, 3, 4, 4, 1, 3, 4, 4, 3, 2, 4};
+    private static final int CALLS = 512;
     private static final Check CHECK = new Check("ModelTest");
 
     private final Random random;
@@ -150,8 +151,12 @@ public final class ModelTest {
             call(20, t, spring, silverToFind(t, spring));
             call(22, below(6), below(2), 0);
         }
-        while (calls < 500) {
+        // "An object is used for at most 512 calls": the last of them answers as well as the first.
+        while (calls < CALLS - 1) {
             drawnCall();
+        }
+        while (calls < CALLS) {
+            call(27, 5, 0, 0);
         }
     }
 

@@ -289,32 +289,37 @@ public final class SpringsTest {
         due("15: nothing", x.undo(), Check.NO);
         String[] was = new String[20];
         int done = 0;
-        was[done++] = Check.state(x);
+        was[done++] = Check.brief(x);
         x.pass(3);
-        was[done++] = Check.state(x);
+        was[done++] = Check.brief(x);
         x.way(0, 3);
-        was[done++] = Check.state(x);
+        was[done++] = Check.brief(x);
         x.hire(0, 0, 1);
-        was[done++] = Check.state(x);
+        was[done++] = Check.brief(x);
         x.raise(0, 1);
-        was[done++] = Check.state(x);
+        was[done++] = Check.brief(x);
         x.land(1, 2);
-        was[done++] = Check.state(x);
+        was[done++] = Check.brief(x);
         due("15: five", x.count(7), 5);
         for (int left = 4; left >= 0; left--) {
-            CHECK.same("15: as it stood", Check.state(x), was[left + 1]);
+            CHECK.same("15: as it stood", Check.brief(x), was[left + 1]);
             due("15: how many more", x.undo(), left);
         }
-        CHECK.same("15: as at first", Check.state(x), was[0]);
+        CHECK.same("15: as at first", Check.brief(x), was[0]);
         due("15: no more", x.undo(), Check.NO);
+    }
+
+    private static void eightAtMost() {
+        PaidToGoAway x = Check.laid("t0,60,9,9;t0,60,2,0;c40,15;c9,5;c9,7;w0,1;w1,1;b2;");
+        String[] was = new String[12];
         for (int i = 0; i < 12; i++) {
-            was[i] = behindCounts(x);
+            was[i] = Check.brief(x);
             x.pass(1 + i % 3);
             due("15: eight at most", x.count(7), Math.min(8, i + 1));
         }
         for (int left = 7; left >= 0; left--) {
             due("15: of the last eight", x.undo(), left);
-            CHECK.same("15: as it stood", behindCounts(x), was[left + 4]);
+            CHECK.same("15: as it stood", Check.brief(x), was[left + 4]);
         }
         due("15: no more than eight", x.undo(), Check.NO);
         due("15: springs", x.count(2), 1 + 2 + 3 + 1);
@@ -336,11 +341,6 @@ public final class SpringsTest {
         due("15: the text stays", x.count(9), 17 + 1);
     }
 
-    private static String behindCounts(PaidToGoAway x) {
-        String state = Check.state(x);
-        return x.count(2) + state.substring(state.indexOf('\n'));
-    }
-
     public static void main(String[] args) {
         bounds();
         income();
@@ -356,6 +356,7 @@ public final class SpringsTest {
         land();
         raise();
         undo();
+        eightAtMost();
         undoOfOneKind();
         CHECK.end();
     }
